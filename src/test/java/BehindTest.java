@@ -1,0 +1,132 @@
+/** Promises 23 to 25: boxes, box, volume. */
+public final class BehindTest {
+    private static final int NONE = AimFronts.NONE, OUTSIDE = AimFronts.OUTSIDE, STATE = AimFronts.STATE;
+    private static final int LEAST = Integer.MIN_VALUE, MOST = Integer.MAX_VALUE;
+
+    public static void main(String[] args) {
+        ofNothing();
+        oneAim();
+        twoAims();
+        threeAims();
+        twelveAndThirteen();
+        followTheFront();
+        Check.end();
+    }
+
+    private static void ofNothing() {
+        AimFronts x = new AimFronts();
+        Check.due("23: boxes() of nothing", x.boxes(), STATE);
+        Check.due("24: box(0, 0) without an aim", x.box(0, 0), OUTSIDE);
+        Check.due("25: volume() of nothing", x.volume(), 0);
+        x.aim();
+        Check.due("23: boxes() before run", x.boxes(), STATE);
+        Check.due("24: box(0, 0): STATE ahead of no such box", x.box(0, 0), STATE);
+        Check.due("24: box(-1, 0): STATE ahead of no such box", x.box(-1, 0), STATE);
+        Check.due("24: box(0, 1): no such aim ahead of STATE", x.box(0, 1), OUTSIDE);
+        Check.due("25: volume() before run", x.volume(), 0);
+    }
+
+    private static void oneAim() {
+        AimFronts x = new AimFronts();
+        x.column(-5, 5);
+        x.aim();
+        x.cost(0, 0, 2);
+        x.run(2000);
+        Check.due("23: boxes()", x.boxes(), 1);
+        Check.due("24: box(0, 0)", x.box(0, 0), -10);
+        Check.due("24: box(1, 0)", x.box(1, 0), OUTSIDE);
+        Check.due("25: volume()", x.volume(), 1);
+    }
+
+    private static void twoAims() {
+        AimFronts x = new AimFronts();
+        x.column(0, 2);
+        x.aim();
+        x.aim();
+        x.cost(0, 0, 3);
+        x.cost(1, 0, -2);
+        x.run(3);
+        int[][] due = {{0, 1}, {3, 0}, {6, -2}, {7, -4}};
+        Check.due("23: boxes()", x.boxes(), due.length);
+        for (int i = 0; i < due.length; i++) {
+            Check.due("24: box(" + i + ", 0)", x.box(i, 0), due[i][0]);
+            Check.due("24: box(" + i + ", 1)", x.box(i, 1), due[i][1]);
+        }
+        Check.due("24: box(4, 0)", x.box(4, 0), OUTSIDE);
+        Check.due("24: box(-1, 0)", x.box(-1, 0), OUTSIDE);
+        Check.due("24: box(MOST, 1)", x.box(MOST, 1), OUTSIDE);
+        Check.due("24: box(LEAST, 1)", x.box(LEAST, 1), OUTSIDE);
+        Check.due("24: box(0, 2)", x.box(0, 2), OUTSIDE);
+        Check.due("24: box(0, -1)", x.box(0, -1), OUTSIDE);
+        // From (0, 0) 7 by 1, from (3, -2) 4 by 2 more, from (6, -4) 1 by 2 more.
+        Check.due("25: volume()", x.volume(), 17);
+    }
+
+    /** The six scores with the sum 2: numbers that several scores share. */
+    private static void threeAims() {
+        AimFronts x = new AimFronts();
+        x.column(0, 2);
+        x.column(0, 2);
+        x.column(0, 2);
+        x.row(-2);
+        for (int a = 0; a < 3; a++) {
+            x.aim();
+            x.cost(a, a, 1);
+            x.term(0, a, -1);
+        }
+        Check.due("23: run(2000)", x.run(2000), 6);
+        int[][] due = {{0, 3, 3}, {1, 1, 2}, {1, 2, 1}, {2, 1, 1}, {3, 0, 3}, {3, 3, 0}};
+        Check.due("23: boxes()", x.boxes(), due.length);
+        for (int i = 0; i < due.length; i++) {
+            for (int a = 0; a < 3; a++) {
+                Check.due("24: box(" + i + ", " + a + ")", x.box(i, a), due[i][a]);
+            }
+        }
+        // Of 27 rows only 000, 100, 010, 001 have a sum below 2.
+        Check.due("25: volume()", x.volume(), 23);
+    }
+
+    private static void twelveAndThirteen() {
+        AimFronts x = new AimFronts();
+        x.column(-6, 6);
+        x.aim();
+        x.aim();
+        x.aim();
+        x.aim();
+        x.cost(0, 0, 9);
+        x.cost(1, 0, -9);
+        x.cost(2, 0, 7);
+        x.cost(3, 0, -5);
+        Check.due("23: run(12)", x.run(12), 12);
+        Check.due("23: boxes() of 12 are worked", x.boxes() > 12 ? 1 : 0, 1);
+        Check.due("25: volume() of 12 is worked", x.volume() > 0 ? 1 : 0, 1);
+        Check.due("23: run(1)", x.run(1), 13);
+        Check.due("23: boxes() of 13", x.boxes(), STATE);
+        Check.due("24: box(0, 0) of 13", x.box(0, 0), STATE);
+        Check.due("24: box(-1, 0) of 13: STATE first", x.box(-1, 0), STATE);
+        Check.due("24: box(0, 4) of 13: no such aim first", x.box(0, 4), OUTSIDE);
+        Check.due("25: volume() of 13", x.volume(), NONE);
+    }
+
+    /** What was worked for one front is not told of the next. */
+    private static void followTheFront() {
+        AimFronts x = new AimFronts();
+        x.column(0, 2);
+        x.aim();
+        x.aim();
+        x.cost(0, 0, 1);
+        x.cost(1, 0, -1);
+        x.run(1);
+        Check.due("23: boxes() of one", x.boxes(), 2);
+        Check.due("25: volume() of one", x.volume(), 1);
+        x.run(1);
+        Check.due("25: volume() of two", x.volume(), 3);
+        Check.due("23: boxes() of two", x.boxes(), 3);
+        x.run(1);
+        Check.due("24: box(3, 1) of three", x.box(3, 1), -2);
+        x.part(0, 2, 2);
+        x.run(3);
+        Check.due("24: box(0, 0) of another", x.box(0, 0), 2);
+        Check.due("23: boxes() of another", x.boxes(), 2);
+    }
+}
