@@ -445,13 +445,19 @@ public final class AimFronts {
             int kept = place;
             for (int k = place; k < size; k++) {
                 if (!Packed.inNoneGreater(score, scores[k])) {
-                    scores[kept] = scores[k];
-                    points[kept] = points[k];
-                    counts[kept] = counts[k];
+                    move(k, kept);
                     kept++;
                 }
             }
             size = kept;
+        }
+
+        private void move(int from, int to) {
+            if (from != to) {
+                scores[to] = scores[from];
+                points[to] = points[from];
+                counts[to] = counts[from];
+            }
         }
 
         private void insert(int place, long score, int point) {
@@ -581,6 +587,7 @@ public final class AimFronts {
         /** For each score, to how many of those not yet covered it is near. */
         private final int[] reach = new int[MOST_SCORES];
         private final boolean[] covered = new boolean[MOST_SCORES];
+        private int scores;
         int size;
 
         void end() {
@@ -589,7 +596,7 @@ public final class AimFronts {
 
         int pick(Front front, int d) {
             long distance = d * Packed.ONE_EACH;
-            int scores = Math.min(front.size, MOST_SCORES);
+            scores = Math.min(front.size, MOST_SCORES);
             for (int k = 0; k < scores; k++) {
                 covered[k] = false;
                 reach[k] = 0;
@@ -599,14 +606,14 @@ public final class AimFronts {
             }
             int open = scores;
             for (size = 0; open > 0 && size < scores; size++) {
-                int best = furthest(scores);
+                int best = furthest();
                 picks[size] = best;
                 open -= coverFrom(front, best, distance);
             }
             return size;
         }
 
-        private int furthest(int scores) {
+        private int furthest() {
             int best = 0;
             for (int k = 1; k < scores; k++) {
                 if (reach[k] > reach[best]) {
@@ -618,7 +625,7 @@ public final class AimFronts {
 
         private int coverFrom(Front front, int picked, long distance) {
             int more = 0;
-            for (int k = 0; k < front.size; k++) {
+            for (int k = 0; k < scores; k++) {
                 if (!covered[k] && isNear(front, picked, k, distance)) {
                     covered[k] = true;
                     changeReach(front, k, distance, -1);
@@ -629,7 +636,7 @@ public final class AimFronts {
         }
 
         private void changeReach(Front front, int score, long distance, int change) {
-            for (int k = 0; k < front.size; k++) {
+            for (int k = 0; k < scores; k++) {
                 if (isNear(front, k, score, distance)) {
                     reach[k] += change;
                 }
