@@ -8,6 +8,7 @@ public final class BehindTest {
         oneAim();
         twoAims();
         threeAims();
+        oneAimWithOneNumber();
         twelveAndThirteen();
         followTheFront();
         Check.end();
@@ -86,6 +87,27 @@ public final class BehindTest {
         Check.due("25: volume()", x.volume(), 23);
     }
 
+    /** Two aims against each other, and a third in which all scores are the same. */
+    private static void oneAimWithOneNumber() {
+        AimFronts x = new AimFronts();
+        x.column(0, 2);
+        x.aim();
+        x.aim();
+        x.aim();
+        x.cost(0, 0, 1);
+        x.cost(1, 0, -2);
+        x.run(3);
+        int[][] due = {{0, 1, 1}, {1, 0, 1}, {2, -2, 1}, {3, -4, 1}, {3, 1, 0}};
+        Check.due("23: boxes()", x.boxes(), due.length);
+        for (int i = 0; i < due.length; i++) {
+            for (int a = 0; a < 3; a++) {
+                Check.due("24: box(" + i + ", " + a + ")", x.box(i, a), due[i][a]);
+            }
+        }
+        // From (0, 0) 3 by 1, from (1, -2) 2 by 2 more, from (2, -4) 1 by 2 more.
+        Check.due("25: volume()", x.volume(), 9);
+    }
+
     private static void twelveAndThirteen() {
         AimFronts x = new AimFronts();
         x.column(-6, 6);
@@ -98,14 +120,41 @@ public final class BehindTest {
         x.cost(2, 0, 7);
         x.cost(3, 0, -5);
         Check.due("23: run(12)", x.run(12), 12);
-        Check.due("23: boxes() of 12 are worked", x.boxes() > 12 ? 1 : 0, 1);
-        Check.due("25: volume() of 12 is worked", x.volume() > 0 ? 1 : 0, 1);
+        // Two aims go up and two go down: between two neighbours 2 by 2 boxes, and 2 at each end.
+        Check.due("23: boxes() of 12", x.boxes(), 48);
+        int[] first = {-54, 55, 36, 31};
+        int[] last = {46, 55, 36, -25};
+        for (int a = 0; a < 4; a++) {
+            Check.due("24: box(0, " + a + ") of 12", x.box(0, a), first[a]);
+            Check.due("24: box(47, " + a + ") of 12", x.box(47, a), last[a]);
+        }
+        Check.due("24: box(48, 0) of 12", x.box(48, 0), OUTSIDE);
+        Check.due("25: volume() of 12", x.volume(), volumeOfTwelve());
         Check.due("23: run(1)", x.run(1), 13);
         Check.due("23: boxes() of 13", x.boxes(), STATE);
         Check.due("24: box(0, 0) of 13", x.box(0, 0), STATE);
         Check.due("24: box(-1, 0) of 13: STATE first", x.box(-1, 0), STATE);
         Check.due("24: box(0, 4) of 13: no such aim first", x.box(0, 4), OUTSIDE);
         Check.due("25: volume() of 13", x.volume(), NONE);
+    }
+
+    /** Row by row of the first two aims: which scores reach it, and what they have in the other two. */
+    private static long volumeOfTwelve() {
+        long all = 0;
+        for (int p = -54; p < 46; p++) {
+            for (int q = -45; q < 55; q++) {
+                for (int r = -42; r < 36; r++) {
+                    int least = 31;
+                    for (int n = -6; n < 6; n++) {
+                        if (9 * n <= p && -9 * n <= q && 7 * n <= r) {
+                            least = Math.min(least, -5 * n);
+                        }
+                    }
+                    all += 31 - least;
+                }
+            }
+        }
+        return all;
     }
 
     /** What was worked for one front is not told of the next. */

@@ -13,6 +13,8 @@ public final class ChoiceTest {
         cover();
         coverOfMany();
         coverPicksAllNear();
+        coverOfASquare();
+        fourAims();
         Check.end();
     }
 
@@ -244,5 +246,41 @@ public final class ChoiceTest {
         Check.due("21: cover(2)", x.cover(2), 2);
         Check.due("22: picked(0)", x.picked(0), 2);
         Check.due("22: picked(1)", x.picked(1), 3);
+    }
+
+    /** Scores (a, -a, b, -b), a and b from 0 on: all of them are on the front. */
+    private static AimFronts square(int side) {
+        AimFronts x = new AimFronts();
+        x.column(0, side - 1);
+        x.column(0, side - 1);
+        for (int a = 0; a < 4; a++) {
+            x.aim();
+            x.cost(a, a / 2, a % 2 == 0 ? 1 : -1);
+        }
+        x.run(2000);
+        return x;
+    }
+
+    /** What is covered twice counts once: (1, 1) has 9, (2, 2) 5 more, then two corners are left. */
+    private static void coverOfASquare() {
+        AimFronts x = square(4);
+        int[] due = {5, 10, 2, 8};
+        Check.due("21: cover(1) of a square", x.cover(1), due.length);
+        for (int i = 0; i < due.length; i++) {
+            Check.due("22: picked(" + i + ") of a square", x.picked(i), due[i]);
+        }
+    }
+
+    private static void fourAims() {
+        AimFronts x = square(4);
+        Check.due("18: weighted(0, 0, 0, 1)", x.weighted(0, 0, 0, 1), 3);
+        Check.due("18: weighted(0, 1, 100, 99)", x.weighted(0, 1, 100, 99), 12);
+        Check.due("18: weighted(0, 0, 0, 101)", x.weighted(0, 0, 0, 101), OUTSIDE);
+        Check.due("19: first(3, 1, 0, 0)", x.first(3, 1, 0, 0), 15);
+        Check.due("19: first(3, 3, 3, 1)", x.first(3, 3, 3, 1), 15);
+        Check.due("19: first(3, 3, 3, 0)", x.first(3, 3, 3, 0), 3);
+        Check.due("20: under(2, 0, 3, -1)", x.under(2, 0, 3, -1), 1);
+        Check.due("20: under(2, -2, 3, -3)", x.under(2, -2, 3, -3), 11);
+        Check.due("20: under(3, 0, 3, -4)", x.under(3, 0, 3, -4), NONE);
     }
 }

@@ -8,6 +8,7 @@ public final class ClimbTest {
         alongOneColumn();
         firstStepThatBeats();
         stopsAtRowsAndParts();
+        eightColumns();
         withoutColumns();
         Check.end();
     }
@@ -105,6 +106,25 @@ public final class ClimbTest {
         Check.due("27: climbed(0)", x.climbed(0), 3);
         x.run(2000);
         Check.due("27: run() leaves it", x.climbed(0), 3);
+    }
+
+    private static void eightColumns() {
+        AimFronts x = new AimFronts();
+        x.aim();
+        for (int c = 0; c < 8; c++) {
+            x.column(0, 1);
+            x.cost(0, c, -1);
+        }
+        Check.due("26: climb(0) in eight columns", x.climb(0), 8);
+        for (int c = 0; c < 8; c++) {
+            Check.due("27: climbed(" + c + ")", x.climbed(c), 1);
+        }
+        // Point 1 has 1 in the last column alone.
+        Check.due("26: climb(1) in eight columns", x.climb(1), 7);
+        x.cost(0, 7, 1);
+        Check.due("26: climb(1) with the last column dear", x.climb(1), 8);
+        Check.due("27: climbed(7)", x.climbed(7), 0);
+        Check.due("27: climbed(8)", x.climbed(8), OUTSIDE);
     }
 
     private static void withoutColumns() {

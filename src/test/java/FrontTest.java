@@ -9,6 +9,7 @@ public final class FrontTest {
         pointsAreInOrder();
         frontOfTwoAims();
         tiesAndFirstPlan();
+        lesserScoresLater();
         beatenLater();
         idealAndNadir();
         farScores();
@@ -132,6 +133,25 @@ public final class FrontTest {
         Check.due("14: ties(-1)", x.ties(-1), OUTSIDE);
         Check.due("14: ties(5)", x.ties(5), OUTSIDE);
         Check.due("14: ties(MOST)", x.ties(MOST), OUTSIDE);
+    }
+
+    /** Scores that come later and stand earlier: plans and ties go along with theirs. */
+    private static void lesserScoresLater() {
+        AimFronts x = new AimFronts();
+        x.column(0, 3);
+        x.column(0, 1);
+        x.aim();
+        x.aim();
+        x.cost(0, 0, -1);
+        x.cost(1, 0, 1);
+        Check.due("2 FRONT: run(7)", x.run(7), 4);
+        for (int k = 0; k < 4; k++) {
+            Check.due("12: score(" + k + ", 0)", x.score(k, 0), k - 3);
+            Check.due("12: score(" + k + ", 1)", x.score(k, 1), 3 - k);
+            Check.due("13: plan(" + k + ", 0)", x.plan(k, 0), 3 - k);
+            Check.due("13: plan(" + k + ", 1)", x.plan(k, 1), 0);
+            Check.due("14: ties(" + k + ")", x.ties(k), k == 0 ? 1 : 2);
+        }
     }
 
     private static void beatenLater() {

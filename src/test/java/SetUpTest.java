@@ -8,6 +8,7 @@ public final class SetUpTest {
         column();
         row();
         rowsHold();
+        eightRowsHold();
         term();
         aim();
         cost();
@@ -88,6 +89,27 @@ public final class SetUpTest {
         x.run(2000);
         // 2 x - y is at most 2 and -x at most 1: x from -1 to 1, y 0 or 1.
         Check.due("3: plans() under two rows", x.plans(), 6);
+    }
+
+    /** Row c takes the 1 from column c; only the point with 0 in all columns is left. */
+    private static void eightRowsHold() {
+        AimFronts x = new AimFronts();
+        for (int c = 0; c < 8; c++) {
+            x.column(0, 1);
+            x.row(0);
+        }
+        x.aim();
+        for (int c = 7; c >= 0; c--) {
+            x.run(2000);
+            Check.due("3: plans() under " + (7 - c) + " rows that bind", x.plans(), 1 << (c + 1));
+            x.term(c, c, 9);
+        }
+        x.run(2000);
+        Check.due("3: plans() under eight rows", x.plans(), 1);
+        Check.due("4: term(7, 7, 0)", x.term(7, 7, 0), 9);
+        x.run(2000);
+        Check.due("13: plan(0, 7)", x.plan(0, 7), 0);
+        Check.due("14: ties(0)", x.ties(0), 2);
     }
 
     private static void term() {
@@ -252,6 +274,12 @@ public final class SetUpTest {
         isAnew("anew by part", x, 5);
         x = busy();
         x.clear();
+        Check.due("anew by clear: left()", x.left(), 1);
+        Check.due("anew by clear: plans()", x.plans(), 0);
+        Check.due("anew by clear: ties(0)", x.ties(0), OUTSIDE);
+        Check.due("anew by clear: picked(0)", x.picked(0), OUTSIDE);
+        Check.due("anew by clear: volume()", x.volume(), 0);
+        Check.due("anew by clear: under(9, 9, 9, 9)", x.under(9, 9, 9, 9), AimFronts.NONE);
         x.column(0, 2);
         isAnew("anew by clear", x, 3);
     }
