@@ -14,6 +14,15 @@ public final class BehindTest {
         Check.end();
     }
 
+    private static void boxesAre(AimFronts x, int[][] due) {
+        Check.due("23: boxes()", x.boxes(), due.length);
+        for (int i = 0; i < due.length; i++) {
+            for (int a = 0; a < due[i].length; a++) {
+                Check.due("24: box(" + i + ", " + a + ")", x.box(i, a), due[i][a]);
+            }
+        }
+    }
+
     private static void ofNothing() {
         AimFronts x = new AimFronts();
         Check.due("23: boxes() of nothing", x.boxes(), STATE);
@@ -48,11 +57,7 @@ public final class BehindTest {
         x.cost(1, 0, -2);
         x.run(3);
         int[][] due = {{0, 1}, {3, 0}, {6, -2}, {7, -4}};
-        Check.due("23: boxes()", x.boxes(), due.length);
-        for (int i = 0; i < due.length; i++) {
-            Check.due("24: box(" + i + ", 0)", x.box(i, 0), due[i][0]);
-            Check.due("24: box(" + i + ", 1)", x.box(i, 1), due[i][1]);
-        }
+        boxesAre(x, due);
         Check.due("24: box(4, 0)", x.box(4, 0), OUTSIDE);
         Check.due("24: box(-1, 0)", x.box(-1, 0), OUTSIDE);
         Check.due("24: box(MOST, 1)", x.box(MOST, 1), OUTSIDE);
@@ -77,12 +82,7 @@ public final class BehindTest {
         }
         Check.due("23: run(2000)", x.run(2000), 6);
         int[][] due = {{0, 3, 3}, {1, 1, 2}, {1, 2, 1}, {2, 1, 1}, {3, 0, 3}, {3, 3, 0}};
-        Check.due("23: boxes()", x.boxes(), due.length);
-        for (int i = 0; i < due.length; i++) {
-            for (int a = 0; a < 3; a++) {
-                Check.due("24: box(" + i + ", " + a + ")", x.box(i, a), due[i][a]);
-            }
-        }
+        boxesAre(x, due);
         // Of 27 rows only 000, 100, 010, 001 have a sum below 2.
         Check.due("25: volume()", x.volume(), 23);
     }
@@ -98,12 +98,7 @@ public final class BehindTest {
         x.cost(1, 0, -2);
         x.run(3);
         int[][] due = {{0, 1, 1}, {1, 0, 1}, {2, -2, 1}, {3, -4, 1}, {3, 1, 0}};
-        Check.due("23: boxes()", x.boxes(), due.length);
-        for (int i = 0; i < due.length; i++) {
-            for (int a = 0; a < 3; a++) {
-                Check.due("24: box(" + i + ", " + a + ")", x.box(i, a), due[i][a]);
-            }
-        }
+        boxesAre(x, due);
         // From (0, 0) 3 by 1, from (1, -2) 2 by 2 more, from (2, -4) 1 by 2 more.
         Check.due("25: volume()", x.volume(), 9);
     }
