@@ -156,6 +156,8 @@ public final class ChoiceTest {
         Check.due("19: first(2, 1, 0, NONE)", x.first(2, 1, 0, NONE), 6);
         Check.due("19: first(2, 2, 2, 1)", x.first(2, 2, 2, 1), 6);
         Check.due("19: first(0, 2, 1, 1)", x.first(0, 2, 1, 1), 1);
+        Check.due("19: first(0, 0, 0, 0), two alike: the first", x.first(0, 0, 0, 0), 0);
+        Check.due("19: first(1, 1, 1, 1), two alike: the first", x.first(1, 1, 1, 1), 2);
         Check.due("19: first(3, NONE, 0, 0)", x.first(3, NONE, 0, 0), OUTSIDE);
         Check.due("19: first(0, -1, NONE, 0)", x.first(0, -1, NONE, 0), OUTSIDE);
         Check.due("19: first(0, 0, 0, 3)", x.first(0, 0, 0, 3), OUTSIDE);

@@ -11,6 +11,7 @@ public final class FrontTest {
         tiesAndFirstPlan();
         lesserScoresLater();
         beatenLater();
+        beatenInTheMiddle();
         idealAndNadir();
         farScores();
         Check.end();
@@ -178,6 +179,25 @@ public final class FrontTest {
         Check.due("12: score(1, 2)", x.score(1, 2), -4);
         Check.due("14: ties(0)", x.ties(0), 1);
         Check.due("11: plans()", x.plans(), 6);
+    }
+
+    /** Six points give four scores; the plan (1, 1, 0) beats the second, and those behind it keep what is theirs. */
+    private static void beatenInTheMiddle() {
+        AimFronts x = Script.made("column 0 1, column 0 1, column 0 1, row 2, term 0 0 2, term 0 1 -1, term 0 2 2,"
+            + " aim, aim, cost 0 0 -2, cost 0 1 1, cost 0 2 1, cost 1 0 1, cost 1 1 -1, cost 1 2 -1");
+        Check.due("2 FRONT: run(6)", x.run(6), 4);
+        Check.due("12: score(1, 0)", x.score(1, 0), 0);
+        Check.due("2 FRONT: run(1)", x.run(1), 4);
+        int[][] due = {{-2, 1, 1, 0, 0, 1}, {-1, 0, 1, 1, 0, 1}, {1, -1, 0, 0, 1, 2}, {2, -2, 0, 1, 1, 1}};
+        for (int k = 0; k < 4; k++) {
+            for (int i = 0; i < 2; i++) {
+                Check.due("12: score(" + k + ", " + i + ")", x.score(k, i), due[k][i]);
+            }
+            for (int c = 0; c < 3; c++) {
+                Check.due("13: plan(" + k + ", " + c + ")", x.plan(k, c), due[k][2 + c]);
+            }
+            Check.due("14: ties(" + k + ")", x.ties(k), due[k][5]);
+        }
     }
 
     private static void idealAndNadir() {

@@ -55,7 +55,11 @@ public final class ModelTest {
         return low + random.nextInt(Math.max(1, high - low + 1));
     }
 
+    /** What an object answers after its 512th call is free. */
     private void due(String call, long got, long want) {
+        if (calls == CALLS) {
+            return;
+        }
         calls++;
         Check.due(name + calls + ": " + call, got, want);
     }
@@ -134,11 +138,7 @@ public final class ModelTest {
     }
 
     private void ask() {
-        int size = 20;
-        while (size > 0 && real.ties(size - 1) == AimFronts.OUTSIDE) {
-            size--;
-        }
-        int k = some(0, size);
+        int k = some(0, Math.min(20, plain.scores()));
         int aim = some(0, aims - 1);
         int column = some(0, columns - 1);
         switch (random.nextInt(20)) {
@@ -175,7 +175,7 @@ public final class ModelTest {
     }
 
     private void askBox(int aim) {
-        int i = some(0, Math.max(0, real.boxes()));
+        int i = some(0, Math.max(0, plain.boxes()));
         due("box(" + i + ", " + aim + ")", real.box(i, aim), plain.box(i, aim));
     }
 

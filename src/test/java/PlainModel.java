@@ -228,6 +228,11 @@ final class PlainModel {
         return front.size();
     }
 
+    /** For the tests alone: how many scores the front has. */
+    int scores() {
+        return front.size();
+    }
+
     int left() {
         return points.size() - gone;
     }

@@ -9,10 +9,12 @@ public final class SetUpTest {
         row();
         rowsHold();
         eightRowsHold();
+        rightAtItsBounds();
         term();
         aim();
         cost();
         part();
+        partAtFarScores();
         clear();
         setUpBeginsAnew();
         refusedSetUpChangesNothing();
@@ -112,6 +114,22 @@ public final class SetUpTest {
         Check.due("14: ties(0)", x.ties(0), 2);
     }
 
+    /** A sum of 985 and one column's number: 1000 is at most 1000, 1001 is not; and so below 0. */
+    private static void rightAtItsBounds() {
+        String fixed = Script.times(6, "column 20 20") + "column 5 5, column 0 20, aim, ";
+        int[] factors = {9, 9, 9, 9, 9, 4, 1, 1};
+        for (int sign = -1; sign <= 1; sign += 2) {
+            AimFronts x = Script.made(fixed + "row " + sign * 1000);
+            for (int c = 0; c < 8; c++) {
+                Check.due("4: term(0, " + c + ", ..)", x.term(0, c, sign * factors[c]), 0);
+            }
+            x.run(2000);
+            // Up to 15, or from 15 on.
+            Check.due("3: plans() at a right of " + sign * 1000, x.plans(), sign > 0 ? 16 : 6);
+            Check.due("13: the first of them", x.plan(0, 7), sign > 0 ? 0 : 15);
+        }
+    }
+
     private static void term() {
         AimFronts x = new AimFronts();
         x.column(0, 3);
@@ -197,6 +215,25 @@ public final class SetUpTest {
         x.run(2000);
         Check.due("7: just 7", x.plans(), 1);
         Check.due("7: plan(0, 0)", x.plan(0, 0), 7);
+    }
+
+    /** The farthest score, 1440 or -1440, is within what FROM and TO are at first, and at either end of a part. */
+    private static void partAtFarScores() {
+        for (int sign = -1; sign <= 1; sign += 2) {
+            AimFronts x = Script.made(Script.times(8, "column 20 20") + "aim");
+            for (int c = 0; c < 8; c++) {
+                x.cost(0, c, 9 * sign);
+            }
+            int score = 1440 * sign;
+            Check.due("7: run(1) with from and to as at first", x.run(1), 1);
+            Check.due("7: score(0, 0)", x.score(0, 0), score);
+            int[][] parts = {{-2000, score, 1}, {score, 2000, 1}, {score, score, 1}, {-2000, score - 1, 0},
+                {score + 1, 2000, 0}, {-2000, -2000, 0}, {2000, 2000, 0}};
+            for (int[] part : parts) {
+                Check.due("7: part(0, " + part[0] + ", " + part[1] + ")", x.part(0, part[0], part[1]), 1);
+                Check.due("7: run(1)", x.run(1), part[2]);
+            }
+        }
     }
 
     private static void clear() {
