@@ -109,9 +109,10 @@ public final class AimFronts {
         cover.end();
         behind.forget();
         int end = gone + Math.min(points, task.points - gone);
-        for (; gone < end; gone++) {
-            goThrough(gone);
+        for (int point = gone; point < end; point++) {
+            goThrough(point);
         }
+        gone = end;
         return front.size;
     }
 
@@ -604,11 +605,12 @@ public final class AimFronts {
             for (int k = 0; k < scores; k++) {
                 changeReach(front, k, distance, 1);
             }
+            size = 0;
             int open = scores;
-            for (size = 0; open > 0 && size < scores; size++) {
-                int best = furthest();
-                picks[size] = best;
-                open -= coverFrom(front, best, distance);
+            for (int i = 0; i < scores && open > 0; i++) {
+                picks[i] = furthest();
+                open -= coverFrom(front, picks[i], distance);
+                size = i + 1;
             }
             return size;
         }

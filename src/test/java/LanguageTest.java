@@ -4,12 +4,13 @@ import java.nio.file.Path;
 import java.util.regex.Matcher;
 import java.util.regex.Pattern;
 
-/** What can be seen in the text of the class of LANGUAGE.md, rules 2 to 6 and 11 to 13. */
+/** What can be seen in the text of the class of LANGUAGE.md, rules 2 to 6, 9 and 11 to 13. */
 public final class LanguageTest {
     private static final String[] NOT_ALLOWED = {
         "\\bthrows?\\b", "\\btry\\b", "\\bcatch\\b", "\\bfinally\\b", "\\bsynchronized\\b", "\\bassert\\b", "->", "::",
         "Exact\\b", "\\bpackage\\b", "\\bequals\\b", "\\bhashCode\\b", "\\btoString\\b", "\\bSystem\\.(?!arraycopy)",
         "\\bRandom\\b", "\\bThread\\b", "\\bObject\\b", "\\bvar\\b", "\\bdouble\\b", "\\bfloat\\b", "\\bstatic \\{",
+        "while \\(true\\)", "for \\(;",
         "import (?!java\\.util\\.Arrays;)", "Arrays\\.(?!fill|copyOf|copyOfRange)", "[^\\x00-\\xff]"
     };
 
